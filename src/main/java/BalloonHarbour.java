@@ -501,8 +501,7 @@ public final class BalloonHarbour {
         }
 
         boolean isOverstrained() {
-            // The height is the smaller one of two, so both must be greater.
-            return string > strength && lift - ballast > strength;
+            return presentHeight() > strength;
         }
 
         void changeLift(int step) {

@@ -29,7 +29,8 @@ public final class FaceTest {
 
     private static TreeSet<String> documented() throws Exception {
         TreeSet<String> methods = new TreeSet<>();
-        Pattern method = Pattern.compile("    public (int|boolean|char|double|float) (\\w+)\\((.*?)\\)(?: throws (.*))?;");
+        Pattern method = Pattern.compile(
+                "    public (int|boolean|char|double|float) (\\w+)\\((.*?)\\)(?: throws (.*))?;");
         for (String line : Files.readAllLines(Path.of("../shared/DOC.md"))) {
             Matcher matcher = method.matcher(line);
             if (matcher.matches()) {

@@ -38,7 +38,8 @@ public final class PilotsTest {
         CHECKS.due("26 again", 5, () -> h.addPilot(1, 9, 9));
         CHECKS.due("27 none", IndexOutOfBoundsException.class, () -> new BalloonHarbour().removePilot(0));
         // The denial with a balloon on the berth that has the pilot's weight as its number.
-        BalloonHarbour g = Checks.after("pilot 1 0-0;pilot 1 0-0;pilot 1 0-0", "pilot 1 0-0;pilot 1 0-0;pilot 1 0-0", "moor 1 9 9 9");
+        BalloonHarbour g = Checks.after("pilot 1 0-0;pilot 1 0-0;pilot 1 0-0",
+                "pilot 1 0-0;pilot 1 0-0;pilot 1 0-0", "moor 1 9 9 9");
         CHECKS.due("26 limit", UnsupportedOperationException.class, () -> g.addPilot(1, 0, 0));
         CHECKS.due("26 detail is the limit", 6, g::denialDetail);
     }
@@ -94,7 +95,8 @@ public final class PilotsTest {
         most(h, "three pilots", 3);
         h.pass(1);
         most(h, "nobody on duty", 0);
-        BalloonHarbour g = Checks.after("pilot 30 0-0;pilot 25 0-0;pilot 20 0-0", "pilot 15 0-0;pilot 10 0-0;pilot 5 0-0");
+        BalloonHarbour g = Checks.after("pilot 30 0-0;pilot 25 0-0;pilot 20 0-0",
+                "pilot 15 0-0;pilot 10 0-0;pilot 5 0-0");
         for (int berth = 0; berth < 10; berth++) {
             g.moor(berth, 3 + 3 * berth, 9, 60);
             // spare lifts 3, 6, 9, 12, .. 30

@@ -1,14 +1,8 @@
 import java.util.NoSuchElementException;
-import java.util.regex.Matcher;
-import java.util.regex.Pattern;
 
 /** Promises 43 to 47: texts and output lines. */
 public final class TextsTest {
     private static final Checks CHECKS = new Checks();
-    private static final String NUMBER = "[0-9][0-9]?";
-    private static final String COMMAND = "(?:moor [0-9] N N N|cast [0-9]|load [0-9] N|drop [0-9] [0-9]|rise [0-9] N"
-            + "|wind N=-?[0-9]|wait N|pilot N N-N|leave [0-9])";
-    private static final Pattern TEXT = Pattern.compile((COMMAND + "(?:;" + COMMAND + ")*").replace("N", NUMBER));
 
     public static void main(String[] args) {
         feeding();
@@ -71,8 +65,10 @@ public final class TextsTest {
         CHECKS.due("44 gone", 0, h::balloonCount);
         CHECKS.due("44 wait", 2, () -> Checks.run(h, "wait 1;wait 48"));
         CHECKS.due("44 waited", 49, h::hour);
-        CHECKS.due("44 eight commands", 8, () -> Checks.run(h, "wait 1;wait 1;wait 1;wait 1;wait 1;wait 1;wait 1;wait 10"));
-        CHECKS.due("44 sixty characters", 5, () -> Checks.run(h, "moor 3 40 20 15;cast 3;moor 3 40 20 15;cast 3;wait 1"));
+        CHECKS.due("44 eight commands", 8,
+                () -> Checks.run(h, "wait 1;wait 1;wait 1;wait 1;wait 1;wait 1;wait 1;wait 10"));
+        CHECKS.due("44 many characters", 5,
+                () -> Checks.run(h, "moor 3 40 20 15;cast 3;moor 3 40 20 15;cast 3;wait 1"));
         CHECKS.due("45 none kept yet", NoSuchElementException.class, h::faultPosition);
     }
 
@@ -87,8 +83,9 @@ public final class TextsTest {
         CHECKS.due("44 none of them", 0, h::loaded);
         CHECKS.due("44 no change", 1, h::undoCount);
         CHECKS.due("45 no fault", NoSuchElementException.class, h::faultPosition);
-        String[] texts = {"moor 1 1 1 1", "rise 1 5", "rise 1 21", "wind 3=0", "load 1 0", "moor 2 0 1 1", "wait 0", "wait 49",
-            "wind 24=1", "pilot 31 0-0", "pilot 1 0-24", "drop 1 0", "leave 0", "cast 2", "rise 1 41", "rise 1 0", "rise 2 5"};
+        String[] texts = {"moor 1 1 1 1", "rise 1 5", "rise 1 21", "wind 3=0", "load 1 0", "moor 2 0 1 1",
+            "wait 0", "wait 49", "wind 24=1", "pilot 31 0-0", "pilot 1 0-24", "drop 1 0", "leave 0", "cast 2",
+            "rise 1 41", "rise 1 0", "rise 2 5"};
         int[] causes = {2, 4, 3, 5, 7, 7, 7, 7, 7, 7, 7, 7, 7, 7, 7, 7, 7};
         for (int i = 0; i < texts.length; i++) {
             String text = texts[i];
@@ -104,44 +101,83 @@ public final class TextsTest {
         CHECKS.due("44 seventh bag", UnsupportedOperationException.class, () -> Checks.run(h, "load 1 1"));
         CHECKS.due("50 limit", 1, h::denialCause);
         // Only the commands before it in the same text let the third one reach the limit.
-        CHECKS.due("44 second load", UnsupportedOperationException.class, () -> Checks.run(h, "drop 1 5;load 1 1;load 1 2"));
+        CHECKS.due("44 second load", UnsupportedOperationException.class,
+                () -> Checks.run(h, "drop 1 5;load 1 1;load 1 2"));
         CHECKS.due("49 second load", 2, h::denialDetail);
         CHECKS.due("44 all bags are there", 6, () -> h.bagCount(1));
     }
 
     private static void faultPositions() {
-        String[] texts = {"", "l", "x", "lo", "la", "lx", "wa", "wi", "wx", "moor", "moor ", "moor  1", "moor x", "moor 10 1 1 1",
-            "moor 1 1 1", "moor 1 1 1 1;", "moor 1 1 1 1 ", "moor 1 100 1 1", "cast", "cast 12", "cast 1;;", "cast 1;cast 2;",
-            "Cast 1", "wind 5", "wind 5=", "wind 5=-", "wind 5=--1", "wind 5=10", "wind 5 =1", "wind 123=1", "wait 123",
-            "pilot 5 1", "pilot 5 1-", "pilot 5 1 2", "pilot 5 1--2", "leave", "leave 10", " cast 1", "drop 1 10", "rise 1 ",
-            "cast 1;cast 1;cast 1;cast 1;cast 1;cast 1;cast 1;cast 1;",
-            "cast 1;cast 1;cast 1;cast 1;cast 1;cast 1;cast 1;cast 1;cast",
-            "cast 1;cast 1;cast 1;cast 1;cast 1;cast 1;cast 1;cast 1;cx"};
-        int[] due = {0, 1, 0, 2, 1, 1, 2, 2, 1, 4, 5, 5, 5, 6,
-            10, 13, 12, 9, 4, 6, 7, 14,
-            0, 6, 7, 8, 8, 8, 6, 7, 7,
-            9, 10, 9, 10, 5, 7, 0, 8, 7,
-            56, 60, 57};
+        fault("", 0);
+        fault("l", 1);
+        fault("x", 0);
+        fault("lo", 2);
+        fault("la", 1);
+        fault("lx", 1);
+        fault("wa", 2);
+        fault("wi", 2);
+        fault("wx", 1);
+        fault("moor", 4);
+        fault("moor ", 5);
+        fault("moor  1", 5);
+        fault("moor x", 5);
+        fault("moor 10 1 1 1", 6);
+        fault("moor 1 1 1", 10);
+        fault("moor 1 1 1 1;", 13);
+        fault("moor 1 1 1 1 ", 12);
+        fault("moor 1 100 1 1", 9);
+        fault("cast", 4);
+        fault("cast 12", 6);
+        fault("cast 1;;", 7);
+        fault("cast 1;cast 2;", 14);
+        fault("Cast 1", 0);
+        fault("wind 5", 6);
+        fault("wind 5=", 7);
+        fault("wind 5=-", 8);
+        fault("wind 5=--1", 8);
+        fault("wind 5=10", 8);
+        fault("wind 5 =1", 6);
+        fault("wind 123=1", 7);
+        fault("wait 123", 7);
+        fault("pilot 5 1", 9);
+        fault("pilot 5 1-", 10);
+        fault("pilot 5 1 2", 9);
+        fault("pilot 5 1--2", 10);
+        fault("leave", 5);
+        fault("leave 10", 7);
+        fault(" cast 1", 0);
+        fault("drop 1 10", 8);
+        fault("rise 1 ", 7);
+        fault("cast 1;cast 1;cast 1;cast 1;cast 1;cast 1;cast 1;cast 1;", 56);
+        fault("cast 1;cast 1;cast 1;cast 1;cast 1;cast 1;cast 1;cast 1;cast", 60);
+        fault("cast 1;cast 1;cast 1;cast 1;cast 1;cast 1;cast 1;cast 1;cx", 57);
+        fault("wait \u0661", 5);
+        keptFaults();
+    }
+
+    private static void keptFaults() {
         BalloonHarbour h = new BalloonHarbour();
-        for (int i = 0; i < texts.length; i++) {
-            String text = texts[i];
-            CHECKS.due("44 " + text, IllegalArgumentException.class, () -> Checks.run(h, text));
-            CHECKS.due("45 " + text, due[i], h::faultPosition);
-        }
+        CHECKS.due("44 fault", IllegalArgumentException.class, () -> Checks.run(h, "cast x"));
         Checks.run(h, "wait 1");
-        CHECKS.due("45 kept", 57, h::faultPosition);
+        CHECKS.due("45 kept", 5, h::faultPosition);
         CHECKS.due("44 denied", UnsupportedOperationException.class, () -> Checks.run(h, "cast 1"));
-        CHECKS.due("45 kept", 57, h::faultPosition);
+        CHECKS.due("45 kept", 5, h::faultPosition);
         CHECKS.due("44 grammar is no denial", 6, h::denial);
         // The grammar fails as a whole before a command could.
         CHECKS.due("44 fault before failure", IllegalArgumentException.class, () -> Checks.run(h, "wait 2;cast 1;"));
         CHECKS.due("44 nothing done", 1, h::hour);
-        CHECKS.due("44 another digit", IllegalArgumentException.class, () -> Checks.run(h, "wait \u0661"));
-        CHECKS.due("45 another digit", 5, h::faultPosition);
+        CHECKS.due("45 replaced", 14, h::faultPosition);
+    }
+
+    private static void fault(String text, int want) {
+        BalloonHarbour h = new BalloonHarbour();
+        CHECKS.due("44 " + text, IllegalArgumentException.class, () -> Checks.run(h, text));
+        CHECKS.due("45 " + text, want, h::faultPosition);
     }
 
     private static void faultsOfChangedTexts() {
-        String[] good = {"moor 3 40 20 15;load 3 9;rise 3 20", "pilot 5 22-6;leave 0;wind 12=-3", "drop 1 2;cast 3;wait 11;wait 2"};
+        String[] good = {"moor 3 40 20 15;load 3 9;rise 3 20",
+            "pilot 5 22-6;leave 0;wind 12=-3", "drop 1 2;cast 3;wait 11;wait 2"};
         String signs = "0159 ;=-aceilmorstvwxpdn";
         int seed = 1;
         for (int round = 0; round < 6000; round++) {
@@ -162,7 +198,7 @@ public final class TextsTest {
                 }
             }
             String changed = text.toString();
-            boolean matches = TEXT.matcher(changed).matches();
+            boolean matches = Grammar.matches(changed);
             boolean refused = false;
             try {
                 Checks.run(h, changed);
@@ -174,20 +210,9 @@ public final class TextsTest {
             boolean wasRefused = refused;
             CHECKS.due("44 " + changed, !matches, () -> wasRefused);
             if (refused) {
-                CHECKS.due("45 " + changed, longestBeginning(changed), h::faultPosition);
+                CHECKS.due("45 " + changed, Grammar.faultOf(changed), h::faultPosition);
             }
         }
-    }
-
-    /** The length of the longest part from the first character on that some text begins with. */
-    private static int longestBeginning(String text) {
-        for (int length = text.length(); length > 0; length--) {
-            Matcher matcher = TEXT.matcher(text.substring(0, length));
-            if (matcher.matches() || matcher.hitEnd()) {
-                return length;
-            }
-        }
-        return 0;
     }
 
     private static void outputLine() {
