@@ -71,8 +71,15 @@ public final class BagsTest {
         CHECKS.due("13 height of the string", 20, () -> h.height(0));
         CHECKS.due("13 bags left", 2, () -> h.bagCount(0));
         CHECKS.due("13 only the 15 suffices alone", 18, () -> h.ballast(0));
-        CHECKS.due("13 lift is what lacks", UnsupportedOperationException.class,
-                () -> Checks.after("moor 5 9 40 60;load 5 3").rise(5, 10));
+        BalloonHarbour g = Checks.after("moor 5 9 40 60;load 5 9");
+        CHECKS.due("13 lift is what lacks", UnsupportedOperationException.class, () -> g.rise(5, 10));
+        CHECKS.due("13 lift without bags", 9, g::denialDetail);
+        CHECKS.due("13 least height", 1, () -> g.rise(5, 1));
+        g.load(5, 9);
+        CHECKS.due("13 greatest height", 1, () -> g.rise(5, 9));
+        Checks.run(g, "load 5 1;load 5 1;load 5 1;load 5 1;load 5 1;load 5 4");
+        CHECKS.due("13 the sixth bag", 1, () -> g.rise(5, 4));
+        CHECKS.due("13 the sixth bag went", 5, () -> g.ballast(5));
     }
 
     private static void risingChoosesTheBestSet() {
@@ -161,5 +168,9 @@ public final class BagsTest {
         CHECKS.due("17 overloaded", 2, () -> g.fewestDropsBySets(1, 1));
         CHECKS.due("18 overloaded", 40, () -> g.dropWeight(1, 1));
         CHECKS.due("16 all bags", 3, () -> g.fewestDrops(1, 10));
+        BalloonHarbour f = Checks.after("moor 0 30 40 60;load 0 1;load 0 6;load 0 20;drop 0 2");
+        CHECKS.due("16 the bag that is gone", 1, () -> f.fewestDrops(0, 29));
+        f.drop(0, 1);
+        CHECKS.due("16 lightest bag", 1, () -> f.fewestDrops(0, 30));
     }
 }

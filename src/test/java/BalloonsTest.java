@@ -132,6 +132,14 @@ public final class BalloonsTest {
             int r = rank;
             CHECKS.due("10 rank " + rank, due[rank], () -> h.berthByHeight(r));
         }
+        // heights 10, 11, 11; ballasts 0, 0, 1
+        BalloonHarbour g = Checks.after("moor 0 10 40 60;moor 1 11 40 60;moor 2 12 40 60;load 2 1");
+        CHECKS.due("10 heavier by 1", 2, () -> g.berthByHeight(0));
+        CHECKS.due("10 higher by 1", 1, () -> g.berthByHeight(1));
+        CHECKS.due("10 lowest", 0, () -> g.berthByHeight(2));
+        Checks.run(g, "cast 0;moor 0 12 40 60");
+        CHECKS.due("10 first berth ahead", 0, () -> g.berthByHeight(0));
+        CHECKS.due("10 behind all others", 1, () -> g.berthByHeight(2));
         CHECKS.due("10 above", NoSuchElementException.class, () -> h.berthByHeight(5));
         CHECKS.due("10 below", NoSuchElementException.class, () -> h.berthByHeight(-1));
         CHECKS.due("10 none", NoSuchElementException.class, () -> new BalloonHarbour().berthByHeight(0));

@@ -77,6 +77,9 @@ public final class HoursTest {
         BalloonHarbour g = Checks.after("moor 0 50 40 9;moor 9 50 40 60;load 9 3");
         CHECKS.due("33 first berth", 1, () -> g.pass(1));
         CHECKS.due("33 last berth is far", 1, () -> g.bagCount(9));
+        BalloonHarbour e = Checks.after("moor 0 50 40 9;moor 1 50 40 60");
+        CHECKS.due("33 neighbour without bags", 1, () -> e.pass(1));
+        CHECKS.due("40 no bags", 0, e::lost);
         // A shaken balloon that rises above its strength bursts too, and shakes on.
         BalloonHarbour f = Checks.after("moor 3 40 40 9;moor 4 40 40 25;load 4 20",
                 "moor 5 40 40 30;load 5 9;load 5 1;load 5 2", "moor 2 40 40 39;load 2 7");
@@ -128,6 +131,8 @@ public final class HoursTest {
         BalloonHarbour g = Checks.after("wait 5;moor 3 6 40 6");
         CHECKS.due("34 lift increases", 1, g::burstsAhead);
         CHECKS.due("9 not yet", false, () -> g.isBursting(3));
+        // 7 of 7 at hour 6, and 8 of 7 not before hour 7
+        CHECKS.due("34 one hour only", 0, () -> Checks.after("wait 5;moor 3 6 40 7").burstsAhead());
     }
 
     private static void accounts() {

@@ -36,6 +36,8 @@ public final class PilotsTest {
         CHECKS.due("27 last one", true, () -> h.isOnDuty(4, 5));
         CHECKS.due("27 index is free", IndexOutOfBoundsException.class, () -> h.isOnDuty(5, 5));
         CHECKS.due("26 again", 5, () -> h.addPilot(1, 9, 9));
+        h.removePilot(0);
+        CHECKS.due("26 last hour", 5, () -> h.addPilot(30, 23, 23));
         CHECKS.due("27 none", IndexOutOfBoundsException.class, () -> new BalloonHarbour().removePilot(0));
         // The denial with a balloon on the berth that has the pilot's weight as its number.
         BalloonHarbour g = Checks.after("pilot 1 0-0;pilot 1 0-0;pilot 1 0-0",
@@ -77,6 +79,8 @@ public final class PilotsTest {
         CHECKS.due("30 duty begun", true, () -> h.canCrew(2, 2));
         h.pass(24);
         CHECKS.due("30 next day", true, () -> h.canCrew(2, 2));
+        Checks.run(h, "load 2 20;load 2 20");
+        CHECKS.due("30 no spare lift", false, () -> h.canCrew(2, 2));
     }
 
     private static void mostCrewed() {
@@ -106,6 +110,13 @@ public final class PilotsTest {
         most(g, "30 finds none", 5);
         BalloonHarbour f = Checks.after("moor 0 30 9 60;moor 1 30 9 60", "pilot 30 0-0;pilot 30 0-0;pilot 30 0-0");
         most(f, "more pilots than balloons", 2);
+        // Every new pilot is heavier and takes berth 0, so that all those before move one berth on.
+        BalloonHarbour e = Checks.after("pilot 5 0-0;pilot 10 0-0;pilot 15 0-0",
+                "pilot 20 0-0;pilot 25 0-0;pilot 30 0-0");
+        for (int berth = 0; berth < 6; berth++) {
+            e.moor(berth, 30 - 5 * berth, 9, 60);
+        }
+        most(e, "a chain of six", 6);
     }
 
     private static void most(BalloonHarbour h, String what, int want) {

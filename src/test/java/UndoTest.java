@@ -40,6 +40,10 @@ public final class UndoTest {
         CHECKS.due("51 leave", 2, h::undo);
         CHECKS.due("51 cast", 1, h::undo);
         CHECKS.due("51 as before", whole, () -> State.of(h));
+        h.pass(1);
+        CHECKS.due("40 burst with its bag", 4, h::lost);
+        CHECKS.due("51 burst", 1, h::undo);
+        CHECKS.due("51 as before", whole, () -> State.of(h));
         CHECKS.due("51 one text is one change", 0, h::undo);
         CHECKS.due("51 all", before, () -> State.of(h));
     }

@@ -74,6 +74,8 @@ public final class WindsTest {
         g.load(0, 20);
         // tops 90, 253, 236, 219, 185, 168, 151, 134, 117
         due(g, "one sank", 28);
+        // 36, 46, 29
+        due(Checks.after("moor 0 4 9 60;moor 1 4 9 60;moor 2 1 9 60;wind 0=9"), "last one lowest", 2);
     }
 
     private static void due(BalloonHarbour h, String what, int want) {
@@ -104,6 +106,9 @@ public final class WindsTest {
         }
         calm(g, 2, 0);
         calm(g, 3, 24);
+        BalloonHarbour f = Checks.after("wind 12=1;wind 23=1");
+        // 0 .. 11, and 13 .. 22
+        calm(f, 0, 12);
         for (int strength : new int[] {-1, 10, Integer.MIN_VALUE}) {
             CHECKS.due("24", IllegalArgumentException.class, () -> h.longestCalm(strength));
             CHECKS.due("25", IllegalArgumentException.class, () -> h.longestCalmByTrying(strength));
