@@ -501,7 +501,7 @@ public final class BalloonHarbour {
         }
 
         boolean isOverstrained() {
-            return presentHeight() > strength;
+            return heightWith(ballast) > strength;
         }
 
         void changeLift(int step) {

@@ -4,6 +4,7 @@ public final class UndoTest {
 
     public static void main(String[] args) {
         everyChange();
+        changesAfterAText();
         limit();
         noChanges();
         unaffected();
@@ -13,16 +14,18 @@ public final class UndoTest {
 
     private static void everyChange() {
         BalloonHarbour h = new BalloonHarbour();
-        String before = State.of(h);
         CHECKS.due("51 nothing", IllegalStateException.class, h::undo);
         CHECKS.due("52 nothing", 0, h::undoCount);
-        Checks.Call[] changes = {
-            () -> h.moor(3, 25, 20, 10), () -> h.load(3, 20), () -> h.load(3, 9), () -> h.drop(3, 0),
-            () -> h.rise(3, 20), () -> h.setWind(0, 4), () -> h.addPilot(5, 22, 6), () -> h.pass(5)};
+        Sentences.Act[] changes = {
+            g -> g.moor(3, 25, 20, 10), g -> g.load(3, 20), g -> g.load(3, 9), g -> g.drop(3, 0),
+            g -> g.rise(3, 20), g -> g.setWind(0, 4), g -> g.addPilot(5, 22, 6), g -> g.pass(5)};
+        // The states are those of another harbour, so that neither of both needs more than 512 calls.
+        BalloonHarbour other = new BalloonHarbour();
         String[] states = new String[changes.length];
         for (int i = 0; i < changes.length; i++) {
-            states[i] = State.of(h);
-            changes[i].answer();
+            states[i] = State.of(other);
+            changes[i].on(other);
+            changes[i].on(h);
             CHECKS.due("52", i + 1, h::undoCount);
         }
         CHECKS.due("33 burst", 1, h::bursts);
@@ -31,8 +34,12 @@ public final class UndoTest {
             CHECKS.due("51", i, h::undo);
             CHECKS.due("51 change " + i, want, () -> State.of(h));
         }
-        CHECKS.due("51 all", before, () -> State.of(h));
         CHECKS.due("51 none left", IllegalStateException.class, h::undo);
+    }
+
+    private static void changesAfterAText() {
+        BalloonHarbour h = new BalloonHarbour();
+        String before = State.of(h);
         Checks.run(h, "moor 3 40 20 10;load 3 4;pilot 4 1-2;pilot 5 3-4;wind 3=1");
         String whole = State.of(h);
         h.castOff(3);
@@ -122,6 +129,12 @@ public final class UndoTest {
         CHECKS.due("54 empty", empty, () -> State.of(h));
         CHECKS.due("54 nothing to undo", 0, h::undoCount);
         CHECKS.due("54 nothing to undo", IllegalStateException.class, h::undo);
+        laterSnapshot(later);
+    }
+
+    private static void laterSnapshot(String later) {
+        BalloonHarbour h = new BalloonHarbour();
+        h.saveSnapshot();
         Checks.run(h, "moor 3 40 20 10;load 3 4;moor 4 50 9 9;load 4 7;load 4 8");
         Checks.run(h, "pilot 5 22-6;wind 4=-4;drop 4 0;wait 1");
         CHECKS.due("53 replaces", 1, h::saveSnapshot);
