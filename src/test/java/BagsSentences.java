@@ -77,7 +77,10 @@ final class BagsSentences {
                 s.due("bag " + bag, 20 * bag, () -> h.load(3, 20));
             }
         });
-        s.test(NO_BALLOON, () -> s.needsBalloon((h, berth) -> h.load(berth, 1)));
+        s.test(NO_BALLOON, () -> {
+            s.needsBalloon((h, berth) -> h.load(berth, 1));
+            s.needsBalloon((h, berth) -> h.load(berth, 0));
+        });
         s.test("Throws `IllegalArgumentException` if the weight is out of range", () -> {
             s.refused("too small", BAD_ARGUMENT, h -> h.load(Busy.LOADED, 0));
             s.refused("too large", BAD_ARGUMENT, h -> h.load(Busy.LOADED, 21));
@@ -221,7 +224,7 @@ final class BagsSentences {
                 s.due("last berth", b == 9 ? 2 : 1, () -> h.bagCount(9));
             }
         });
-        s.test("Returns the number of bags.", () -> s.onlyTells(h -> h.bagCount(Busy.FULL)));
+        s.test("Returns the number of bags.", () -> s.onlyTells(6, h -> h.bagCount(Busy.FULL)));
         s.test(NO_BALLOON, () -> s.needsBalloon(BalloonHarbour::bagCount));
     }
 
@@ -239,7 +242,7 @@ final class BagsSentences {
             s.due("the first one", 7, () -> Busy.harbour().bagWeight(Busy.LOADED, 0));
             s.due("the last one", 15, () -> Busy.harbour().bagWeight(Busy.LOADED, 1));
         });
-        s.test("Returns the weight.", () -> s.onlyTells(h -> h.bagWeight(Busy.FULL, 5)));
+        s.test("Returns the weight.", () -> s.onlyTells(20, h -> h.bagWeight(Busy.FULL, 5)));
         s.test(NO_BALLOON, () -> {
             s.needsBalloon((h, berth) -> h.bagWeight(berth, 0));
             s.needsBalloon((h, berth) -> h.bagWeight(berth, -1));
@@ -263,7 +266,7 @@ final class BagsSentences {
             s.due("less than the height", 0, () -> Busy.harbour().fewestDrops(Busy.LOADED, 1));
             s.due("the height of the string", 0, () -> Busy.harbour().fewestDrops(Busy.FULL, 40));
             s.due("no bags", 0, () -> Busy.harbour().fewestDrops(Busy.HIGH, 5));
-            s.onlyTells(h -> h.fewestDrops(Busy.LOADED, 20));
+            s.onlyTells(1, h -> h.fewestDrops(Busy.LOADED, 20));
         });
         s.test(NO_HEIGHT, () -> noHeight(s, BalloonHarbour::fewestDrops));
         s.test(NO_SET, () -> noSet(s, BalloonHarbour::fewestDrops));
@@ -328,7 +331,7 @@ final class BagsSentences {
         s.test("Returns the number of bags.", () -> {
             s.due("the height", 0, () -> Busy.harbour().fewestDropsBySets(Busy.LOADED, 8));
             s.due("1 more than the height", 1, () -> Busy.harbour().fewestDropsBySets(Busy.LOADED, 9));
-            s.onlyTells(h -> h.fewestDropsBySets(Busy.LOADED, 20));
+            s.onlyTells(1, h -> h.fewestDropsBySets(Busy.LOADED, 20));
         });
         s.test(NO_HEIGHT, () -> noHeight(s, BalloonHarbour::fewestDropsBySets));
         s.test(NO_SET, () -> noSet(s, BalloonHarbour::fewestDropsBySets));
@@ -360,7 +363,7 @@ final class BagsSentences {
             s.due("one bag", 7, () -> Busy.harbour().dropWeight(Busy.LOADED, 9));
             BalloonHarbour h = Checks.after("moor 3 21 40 60;load 3 1;load 3 2;load 3 3;load 3 4;load 3 5", "load 3 6");
             s.due("six bags", 21, () -> h.dropWeight(3, 21));
-            s.onlyTells(busy -> busy.dropWeight(Busy.LOADED, 20));
+            s.onlyTells(15, busy -> busy.dropWeight(Busy.LOADED, 20));
         });
         s.test(NO_HEIGHT, () -> noHeight(s, BalloonHarbour::dropWeight));
         s.test(NO_SET, () -> noSet(s, BalloonHarbour::dropWeight));

@@ -168,7 +168,7 @@ final class BalloonsSentences {
             s.due("one burst", 9, h::balloonCount);
             h.castOff(9);
             s.due("one was cast off", 8, h::balloonCount);
-            s.onlyTells(BalloonHarbour::balloonCount);
+            s.onlyTells(3, BalloonHarbour::balloonCount);
         });
     }
 
@@ -191,9 +191,8 @@ final class BalloonsSentences {
             s.needsRange("berth", 0, 9, BalloonHarbour::isMoored);
         });
         s.test("Returns whether there is one.", () -> {
-            s.due("there is one", true, () -> Busy.harbour().isMoored(Busy.HIGH));
-            s.due("there is none", false, () -> Busy.harbour().isMoored(Busy.EMPTY));
-            s.onlyTells(h -> h.isMoored(Busy.FULL));
+            s.onlyTells(true, h -> h.isMoored(Busy.HIGH));
+            s.onlyTells(false, h -> h.isMoored(Busy.EMPTY));
         });
         s.test("Throws `IllegalArgumentException` if there is no such berth", () -> {
             s.refused("before the first one", BAD_ARGUMENT, h -> h.isMoored(-1));
@@ -211,7 +210,7 @@ final class BalloonsSentences {
             s.due("one hour later", 98, () -> h.lift(3));
         });
         s.test("- `berth`: the berth", () -> everyBerth(s, BalloonHarbour::lift, 50));
-        s.test("Returns the lift.", () -> s.onlyTells(h -> h.lift(Busy.FULL)));
+        s.test("Returns the lift.", () -> s.onlyTells(99, h -> h.lift(Busy.FULL)));
         s.test(NO_BALLOON, () -> s.needsBalloon(BalloonHarbour::lift));
     }
 
@@ -239,7 +238,7 @@ final class BalloonsSentences {
             s.due("far greater than the lift", 120, () -> h.ballast(3));
         });
         s.test("- `berth`: the berth", () -> everyBerth(s, BalloonHarbour::ballast, 10));
-        s.test("Returns the ballast.", () -> s.onlyTells(h -> h.ballast(Busy.FULL)));
+        s.test("Returns the ballast.", () -> s.onlyTells(40, h -> h.ballast(Busy.FULL)));
         s.test(NO_BALLOON, () -> s.needsBalloon(BalloonHarbour::ballast));
     }
 
@@ -265,7 +264,7 @@ final class BalloonsSentences {
                 s.due("berth " + b, 20 + b, () -> h.height(b));
             }
         });
-        s.test("Returns the height.", () -> s.onlyTells(h -> h.height(Busy.FULL)));
+        s.test("Returns the height.", () -> s.onlyTells(40, h -> h.height(Busy.FULL)));
         s.test(NO_BALLOON, () -> s.needsBalloon(BalloonHarbour::height));
     }
 
@@ -299,7 +298,10 @@ final class BalloonsSentences {
                 s.due("berth " + b, b % 2 == 1, () -> h.isBursting(b));
             }
         });
-        s.test("Returns whether it would.", () -> s.onlyTells(h -> h.isBursting(Busy.HIGH)));
+        s.test("Returns whether it would.", () -> {
+            s.onlyTells(true, h -> h.isBursting(Busy.HIGH));
+            s.onlyTells(false, h -> h.isBursting(Busy.FULL));
+        });
         s.test(NO_BALLOON, () -> s.needsBalloon(BalloonHarbour::isBursting));
     }
 
@@ -328,7 +330,7 @@ final class BalloonsSentences {
             s.due("the first one", Busy.FULL, () -> Busy.harbour().berthByHeight(0));
             s.due("the last one", Busy.HIGH, () -> Busy.harbour().berthByHeight(2));
         });
-        s.test("Returns the berth.", () -> s.onlyTells(h -> h.berthByHeight(1)));
+        s.test("Returns the berth.", () -> s.onlyTells(Busy.LOADED, h -> h.berthByHeight(1)));
         s.test("Throws `NoSuchElementException` if there is no such rank", () -> {
             for (int rank : new int[] {-1, 3, Integer.MIN_VALUE, Integer.MAX_VALUE}) {
                 s.refused("rank " + rank, NO_ELEMENT, h -> h.berthByHeight(rank));

@@ -137,7 +137,7 @@ final class PilotsSentences {
             s.due("a seventh one", 6, h::pilotCount);
             h.removePilot(5);
             s.due("one less", 5, h::pilotCount);
-            s.onlyTells(BalloonHarbour::pilotCount);
+            s.onlyTells(6, BalloonHarbour::pilotCount);
         });
     }
 
@@ -165,7 +165,10 @@ final class PilotsSentences {
             s.due("23", true, () -> Busy.harbour().isOnDuty(1, 23));
             s.needsRange("hour", 0, 23, (h, hour) -> h.isOnDuty(0, hour));
         });
-        s.test("Returns whether the pilot is on duty.", () -> s.onlyTells(h -> h.isOnDuty(0, 5)));
+        s.test("Returns whether the pilot is on duty.", () -> {
+            s.onlyTells(true, h -> h.isOnDuty(0, 5));
+            s.onlyTells(false, h -> h.isOnDuty(0, 7));
+        });
         s.test(NO_PILOT, () -> {
             s.needsIndex("pilot", 6, (h, pilot) -> h.isOnDuty(pilot, 0));
             s.needsIndex("pilot, at no hour,", 6, (h, pilot) -> h.isOnDuty(pilot, 24));
@@ -213,7 +216,10 @@ final class PilotsSentences {
                 s.due("berth " + b, b % 2 == 1, () -> h.canCrew(0, b));
             }
         });
-        s.test("Returns whether the pilot can.", () -> s.onlyTells(h -> h.canCrew(0, Busy.FULL)));
+        s.test("Returns whether the pilot can.", () -> {
+            s.onlyTells(true, h -> h.canCrew(0, Busy.FULL));
+            s.onlyTells(false, h -> h.canCrew(1, Busy.LOADED));
+        });
         s.test(NO_PILOT, () -> {
             s.needsIndex("pilot", 6, (h, pilot) -> h.canCrew(pilot, Busy.FULL));
             s.needsIndex("pilot, no balloon,", 6, (h, pilot) -> h.canCrew(pilot, Busy.EMPTY));
@@ -236,10 +242,7 @@ final class PilotsSentences {
         s.section("Promise 31");
         s.test("Returns the greatest number of balloons that can be crewed at the same time in the present hour, found "
                 + "by letting pilots change to other balloons.", () -> crewed(s, BalloonHarbour::mostCrewed));
-        s.test("Returns the number of balloons.", () -> {
-            s.due("a busy harbour", 3, () -> Busy.harbour().mostCrewed());
-            s.onlyTells(BalloonHarbour::mostCrewed);
-        });
+        s.test("Returns the number of balloons.", () -> s.onlyTells(3, BalloonHarbour::mostCrewed));
         s.section("Promise 32");
         s.test("Returns the same number as mostCrewed, found balloon by balloon for all sets of pilots.", () -> {
             crewed(s, BalloonHarbour::mostCrewedBySets);
@@ -256,10 +259,7 @@ final class PilotsSentences {
                 s.due("as mostCrewed, round " + round, h.mostCrewed(), h::mostCrewedBySets);
             }
         });
-        s.test("Returns the number of balloons.", () -> {
-            s.due("a busy harbour", 3, () -> Busy.harbour().mostCrewedBySets());
-            s.onlyTells(BalloonHarbour::mostCrewedBySets);
-        });
+        s.test("Returns the number of balloons.", () -> s.onlyTells(3, BalloonHarbour::mostCrewedBySets));
     }
 
     private static void crewed(Sentences s, Crewed call) {

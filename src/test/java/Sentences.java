@@ -151,10 +151,10 @@ final class Sentences {
         due("cause of the denial", NoSuchElementException.class, h::denialCause);
     }
 
-    /** The call answers something on a busy harbour, and nothing at all has changed then. */
-    void onlyTells(Act act) {
-        act.on(Busy.harbour());
-        nothingChanges("the call", act);
+    /** The call has this answer on a busy harbour, and nothing at all has changed then. */
+    void onlyTells(Object want, Act act) {
+        due("a busy harbour", want, () -> act.on(Busy.harbour()));
+        nothingChanges("a busy harbour", act);
     }
 
     /** The call with a berth is refused wherever no balloon is moored. */

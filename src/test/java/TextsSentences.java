@@ -365,7 +365,7 @@ final class TextsSentences {
                 Busy.fail(h, "wait 1;wait 1;wait 1;wait 1;wait 1;wait 1;wait 1;wait 1;load");
                 return h.faultPosition();
             });
-            s.onlyTells(BalloonHarbour::faultPosition);
+            s.onlyTells(5, BalloonHarbour::faultPosition);
         });
         s.test("Throws `NoSuchElementException` if none was kept yet", () -> {
             BalloonHarbour h = new BalloonHarbour();
@@ -445,7 +445,7 @@ final class TextsSentences {
         });
         s.test("Returns the character.", () -> {
             s.due("the last one", '5', () -> Busy.harbour().lineCharacter(10));
-            s.onlyTells(h -> h.lineCharacter(0));
+            s.onlyTells('2', h -> h.lineCharacter(0));
         });
         s.test("Throws `IndexOutOfBoundsException` if there is no such index", () -> {
             s.needsIndex("index", Busy.LINE.length(), BalloonHarbour::lineCharacter);

@@ -46,7 +46,7 @@ final class UndoSentences {
             s.due("5", 5, h::denial);
             Busy.refuse(() -> h.addPilot(1, 0, 0));
             s.due("1 again", 1, h::denial);
-            s.onlyTells(BalloonHarbour::denial);
+            s.onlyTells(6, BalloonHarbour::denial);
         });
         s.test(NOT_DENIED, () -> notDenied(s, BalloonHarbour::denial));
     }
@@ -88,7 +88,7 @@ final class UndoSentences {
             s.due("the greatest one", 40, h::denialDetail);
             Busy.fail(h, "cast 2");
             s.due("0", 0, h::denialDetail);
-            s.onlyTells(BalloonHarbour::denialDetail);
+            s.onlyTells(1, BalloonHarbour::denialDetail);
         });
         s.test(NOT_DENIED, () -> notDenied(s, BalloonHarbour::denialDetail));
     }
@@ -126,7 +126,7 @@ final class UndoSentences {
             cause(s, "t 1;pilot 1 24-0", 7);
             cause(s, "t 1;pilot 1 0-24", 7);
             cause(s, "t 1;leave 6", 7);
-            s.onlyTells(BalloonHarbour::denialCause);
+            s.onlyTells(7, BalloonHarbour::denialCause);
         });
         s.test("Throws `NoSuchElementException` if nothing was denied yet, or the latest denial has no cause", () -> {
             notDenied(s, BalloonHarbour::denialCause);
@@ -247,7 +247,7 @@ final class UndoSentences {
             h.pass(1);
             s.due("one after it", 1, h::undoCount);
         });
-        s.test("Returns the number of changes.", () -> s.onlyTells(BalloonHarbour::undoCount));
+        s.test("Returns the number of changes.", () -> s.onlyTells(8, BalloonHarbour::undoCount));
     }
 
     private static void saveSnapshot(Sentences s) {
@@ -311,7 +311,7 @@ final class UndoSentences {
             for (int time = 1; time <= 3; time++) {
                 h.pass(10);
                 h.load(1, 20);
-                h.restoreSnapshot();
+                s.due("restored time " + time, 1, h::restoreSnapshot);
                 s.due("hour, restored time " + time, 0, h::hour);
                 s.due("ballast, restored time " + time, 5, () -> h.ballast(1));
                 s.due("lift, restored time " + time, 50, () -> h.lift(1));

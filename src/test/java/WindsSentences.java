@@ -93,7 +93,7 @@ final class WindsSentences {
             s.due("23", 9, () -> Busy.harbour().wind(23));
             s.needsRange("hour", 0, 23, BalloonHarbour::wind);
         });
-        s.test("Returns the wind.", () -> s.onlyTells(h -> h.wind(2)));
+        s.test("Returns the wind.", () -> s.onlyTells(-2, h -> h.wind(2)));
         s.test("Throws `IllegalArgumentException` if there is no such hour", () -> {
             s.refused("too small", BAD_ARGUMENT, h -> h.wind(-1));
             s.refused("too large", BAD_ARGUMENT, h -> h.wind(24));
@@ -126,7 +126,7 @@ final class WindsSentences {
             s.due("positive", 17, () -> h.top(2));
             h.setWind(0, -9);
             s.due("the least one", -360, () -> h.top(0));
-            s.onlyTells(busy -> busy.top(Busy.FULL));
+            s.onlyTells(160, busy -> busy.top(Busy.FULL));
         });
         s.test("Throws `NoSuchElementException` if no balloon is moored there",
                 () -> s.needsBalloon(BalloonHarbour::top));
@@ -136,7 +136,7 @@ final class WindsSentences {
         s.section("Promise 22");
         s.test("Returns the number of pairs of balloons whose strings are tangled, found by looking at all pairs.",
                 () -> pairs(s, BalloonHarbour::tangles));
-        s.test("Returns the number of pairs.", () -> s.onlyTells(BalloonHarbour::tangles));
+        s.test("Returns the number of pairs.", () -> s.onlyTells(2, BalloonHarbour::tangles));
         s.section("Promise 23");
         s.test("Returns the same number as tangles, found by merging sorted halves of the tops.", () -> {
             pairs(s, BalloonHarbour::tanglesByMerging);
@@ -151,7 +151,7 @@ final class WindsSentences {
                 s.due("as tangles, round " + round, h.tangles(), h::tanglesByMerging);
             }
         });
-        s.test("Returns the number of pairs.", () -> s.onlyTells(BalloonHarbour::tanglesByMerging));
+        s.test("Returns the number of pairs.", () -> s.onlyTells(2, BalloonHarbour::tanglesByMerging));
     }
 
     private static void pairs(Sentences s, Pairs call) {
@@ -245,7 +245,7 @@ final class WindsSentences {
         h.setWind(23, 5);
         s.due("0 as every wind is stronger", 0, () -> call.of(h, 4));
         s.due("24 as none is stronger", 24, () -> call.of(h, 5));
-        s.onlyTells(busy -> call.of(busy, 3));
+        s.onlyTells(21, busy -> call.of(busy, 3));
     }
 
     private static void noStrength(Sentences s, Calm call) {
