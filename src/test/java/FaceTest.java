@@ -1,3 +1,5 @@
+import java.io.IOException;
+import java.io.UncheckedIOException;
 import java.lang.reflect.Constructor;
 import java.lang.reflect.Field;
 import java.lang.reflect.Method;
@@ -10,7 +12,7 @@ import java.util.TreeSet;
 import java.util.regex.Matcher;
 import java.util.regex.Pattern;
 
-/** The class has the public face of the document, and no other member that others see. */
+/** The class has the public face of the document under its headings, and no other member that others see. */
 public final class FaceTest {
     public static void main(String[] args) throws Exception {
         Checks checks = new Checks();
@@ -24,7 +26,43 @@ public final class FaceTest {
         for (Field field : type.getDeclaredFields()) {
             checks.due("private " + field, true, () -> Modifier.isPrivate(field.getModifiers()));
         }
+        checks.due("the headings and the calls below them", headingsOfDocument(), () -> headingsOfSource());
         checks.finish();
+    }
+
+    /** As "Ahead of the calls `feed`, `execute`, .. the interface says: ---- texts and output lines." tells them. */
+    private static String headingsOfDocument() throws Exception {
+        StringBuilder headings = new StringBuilder();
+        Pattern ahead = Pattern.compile("Ahead of the calls (.*) the interface says: (.*)\\.");
+        for (String line : Files.readAllLines(Path.of("../shared/DOC.md"))) {
+            Matcher matcher = ahead.matcher(line);
+            if (matcher.matches()) {
+                headings.append(matcher.group(2)).append(": ");
+                headings.append(matcher.group(1).replaceAll("[`,]", "")).append('\n');
+            }
+        }
+        return headings.toString();
+    }
+
+    private static String headingsOfSource() {
+        StringBuilder headings = new StringBuilder();
+        Pattern headingOrCall = Pattern.compile(" {4}// (----.*)| {4}public \\w+ (\\w+)\\(.*");
+        for (String line : source()) {
+            Matcher matcher = headingOrCall.matcher(line);
+            if (matcher.matches()) {
+                boolean isHeading = matcher.group(1) != null;
+                headings.append(isHeading ? "\n" + matcher.group(1) + ":" : " " + matcher.group(2));
+            }
+        }
+        return headings.append('\n').substring(1);
+    }
+
+    private static List<String> source() {
+        try {
+            return Files.readAllLines(Path.of("src/main/java/BalloonHarbour.java"));
+        } catch (IOException e) {
+            throw new UncheckedIOException(e);
+        }
     }
 
     private static TreeSet<String> documented() throws Exception {
