@@ -74,7 +74,6 @@ public final class ReadmeTest {
     }
 
     private static boolean runs(String... command) throws Exception {
-        command[0] = Path.of(System.getProperty("java.home"), "bin", command[0]).toString();
         return new ProcessBuilder(command).inheritIO().start().waitFor() == 0;
     }
 
