@@ -12,13 +12,21 @@ final class Checks {
         try {
             got = call.answer();
         } catch (RuntimeException e) {
-            got = e.getClass();
+            got = thrown(e);
         }
         checked++;
         if (!want.equals(got)) {
             wrong++;
             System.out.println(what + " answered " + got + ", due is " + want);
         }
+    }
+
+    /** The class of an exception that the program has thrown; of one that the machine has thrown, all it tells. */
+    static Object thrown(Throwable e) {
+        StackTraceElement[] places = e.getStackTrace();
+        boolean inProgram = places.length > 0 && places[0].getClassName().startsWith("BalloonHarbour");
+        boolean ofDivision = e instanceof ArithmeticException && "/ by zero".equals(e.getMessage());
+        return inProgram && !ofDivision ? e.getClass() : "by the machine: " + e;
     }
 
     void finish() {

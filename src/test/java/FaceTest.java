@@ -1,5 +1,3 @@
-import java.io.IOException;
-import java.io.UncheckedIOException;
 import java.lang.reflect.Constructor;
 import java.lang.reflect.Field;
 import java.lang.reflect.Method;
@@ -26,7 +24,8 @@ public final class FaceTest {
         for (Field field : type.getDeclaredFields()) {
             checks.due("private " + field, true, () -> Modifier.isPrivate(field.getModifiers()));
         }
-        checks.due("the headings and the calls below them", headingsOfDocument(), () -> headingsOfSource());
+        String headings = headingsOfSource();
+        checks.due("the headings and the calls below them", headingsOfDocument(), () -> headings);
         checks.finish();
     }
 
@@ -44,10 +43,10 @@ public final class FaceTest {
         return headings.toString();
     }
 
-    private static String headingsOfSource() {
+    private static String headingsOfSource() throws Exception {
         StringBuilder headings = new StringBuilder();
         Pattern headingOrCall = Pattern.compile(" {4}// (----.*)| {4}public \\w+ (\\w+)\\(.*");
-        for (String line : source()) {
+        for (String line : Files.readAllLines(Path.of("src/main/java/BalloonHarbour.java"))) {
             Matcher matcher = headingOrCall.matcher(line);
             if (matcher.matches()) {
                 boolean isHeading = matcher.group(1) != null;
@@ -55,14 +54,6 @@ public final class FaceTest {
             }
         }
         return headings.append('\n').substring(1);
-    }
-
-    private static List<String> source() {
-        try {
-            return Files.readAllLines(Path.of("src/main/java/BalloonHarbour.java"));
-        } catch (IOException e) {
-            throw new UncheckedIOException(e);
-        }
     }
 
     private static TreeSet<String> documented() throws Exception {

@@ -98,7 +98,7 @@ public final class ModelTest {
         try {
             return method.invoke(harbour, boxed);
         } catch (InvocationTargetException e) {
-            return e.getCause().getClass();
+            return Checks.thrown(e.getCause());
         }
     }
 

@@ -106,7 +106,7 @@ final class Sentences {
         try {
             got = call.answer();
         } catch (RuntimeException e) {
-            got = e.getClass();
+            got = Checks.thrown(e);
         }
         answers++;
         if (!want.equals(got)) {
